@@ -432,8 +432,8 @@ public final class DropSignals {
         }
 
         int ledSuit() {
-            int led = inTrick(0);
-            return led == NONE ? NONE : led / RANKS;
+            int size = laid % PLAYERS;
+            return size == 0 ? NONE : at(order, laid - size) / RANKS;
         }
 
         int dealt(int p, int s) {
@@ -1028,7 +1028,7 @@ public final class DropSignals {
                 case 'c':
                     return Scripts.tryCard(evening, 10 * high + low);
                 default:
-                    Scripts.tryCard(evening, evening.advised());
+                    Scripts.tryAdvices(evening, 1);
                     return true;
             }
         }
@@ -1060,11 +1060,14 @@ public final class DropSignals {
             return true;
         }
 
-        private static boolean tryAdvices(Evening evening, int times) {
+        /** Plays the advised card so many times; an advised card can always be played. */
+        static boolean tryAdvices(Evening evening, int times) {
             for (int i = 0; i < times; i++) {
-                if (!tryCard(evening, evening.advised())) {
+                int c = evening.advised();
+                if (c == NONE) {
                     return false;
                 }
+                evening.layDown(c);
             }
             return true;
         }
@@ -1118,7 +1121,7 @@ public final class DropSignals {
                 if (r % 16 < 8 && count > 0) {
                     tryCard(evening, evening.playable(q % count));
                 } else {
-                    tryCard(evening, evening.advised());
+                    tryAdvices(evening, 1);
                 }
             } else {
                 evening.dealWith(q);

@@ -740,6 +740,9 @@ public final class ModelTests {
                 List<Integer> legal = model.now.legal();
                 List<Integer> hand = model.now.hand(model.now.turn());
                 int wish = number(10);
+                if (wish < 3) {
+                    compare("advice()", model.now::advice, program::advice);
+                }
                 play(wish < 5 ? model.now.advice() : wish < 9 ? legal.get(number(legal.size())) : hand.get(number(hand.size())));
             }
         }

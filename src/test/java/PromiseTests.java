@@ -196,6 +196,15 @@ public final class PromiseTests {
         due("deals behind a load() that threw", 1, x.about(0));
         due("undo() behind a load() that threw", 1, x.undo());
         due("restore(0) behind a load() that threw", 1, x.restore(0));
+        while (x.about(9) == 0 || x.about(10) == 0 || x.about(7) == 0 || x.about(8) == 0) {
+            x.deal(x.about(0));
+            x.bid(1, x.about(0) % 5);
+            x.pass();
+            x.pass();
+            x.pass();
+            x.play(firstNotOf(x, x.about(2)));
+            advance(x, 32);
+        }
         write(x, "V");
         due("load() of V", 0, x.load());
         same("load() of V", new DropSignals(), x);
@@ -648,7 +657,8 @@ public final class PromiseTests {
         x.deal(1);
         due("advice() in bidding", NONE, x.advice());
         int[] cases = new int[5];
-        for (int seed = 0; seed < 60; seed++) {
+        int beyondLowest = 0;
+        for (int seed = 0; seed < 300; seed++) {
             DropSignals y = inPlay(seed, 1, seed % 5);
             while (y.about(1) == 2) {
                 int p = y.about(2);
@@ -682,6 +692,7 @@ public final class PromiseTests {
                         }
                     }
                     cases[want == NONE ? 4 : 2]++;
+                    beyondLowest += want != NONE && want != y.legal(0) ? 1 : 0;
                 } else {
                     cases[3]++;
                 }
@@ -692,13 +703,16 @@ public final class PromiseTests {
                     }
                 }
                 due("advice()", want, y.advice());
-                y.play(seed % 3 == 0 ? y.legal(0) : y.advice());
+                // Now and then a greater card than the advised one, so that not every first drop is the lowest.
+                int other = y.legal(1) != NONE ? y.legal(1) : y.legal(0);
+                y.play(seed % 3 == 0 ? y.legal(0) : seed % 3 == 1 ? other : y.advice());
             }
             due("advice() at the end", NONE, y.advice());
         }
         for (int n : cases) {
             due("all cases came up", 1, n > 10 ? 1 : 0);
         }
+        due("a second drop was not always the lowest card", 1, beyondLowest > 3 ? 1 : 0);
     }
 
     static int ledAt(DropSignals y, int when) {
@@ -822,6 +836,12 @@ public final class PromiseTests {
         DropSignals x = new DropSignals();
         refused("bestCard() without a deal", STATE, x::bestCard);
         int others = 0;
+        DropSignals alone = inPlay(100, 1, 1);
+        advance(alone, 24);
+        DropSignals searched = inPlay(100, 1, 1);
+        advance(searched, 24);
+        searched.most(0);
+        due("bestCard() without most(0)", searched.bestCard(), alone.bestCard());
         for (int seed = 100; seed < 130; seed++) {
             DropSignals y = inPlay(seed, 1, seed % 5);
             refused("bestCard() with too many cards", STATE, y::bestCard);

@@ -102,8 +102,15 @@ public final class PromiseTests {
     }
 
     static DropSignals inPlay(long seed, int level, int suit) {
+        return inPlay(seed, level, suit, 0);
+    }
+
+    static DropSignals inPlay(long seed, int level, int suit, int declarer) {
         DropSignals x = new DropSignals();
         x.deal(seed);
+        for (int i = 0; i < declarer; i++) {
+            x.pass();
+        }
         x.bid(level, suit);
         x.pass();
         x.pass();
@@ -517,15 +524,17 @@ public final class PromiseTests {
         x.deal(2);
         refused("play(0) in bidding", STATE, () -> x.play(0));
         int reasons = 0;
+        int outcomes = 0;
         for (int seed = 0; seed < 40; seed++) {
             int trumps = seed % 5;
             int level = 1 + seed % 4;
-            DropSignals y = inPlay(seed, level, trumps);
+            int declarer = seed / 3 % 4;
+            DropSignals y = inPlay(seed, level, trumps, declarer);
             int[] owner = owners(seed);
             boolean[] gone = new boolean[32];
             int[] tricks = new int[2];
             int refusals = 0;
-            int p = 1;
+            int p = (declarer + 1) % 4;
             for (int t = 0; t < 8; t++) {
                 int[] cards = new int[4];
                 for (int i = 0; i < 4; i++) {
@@ -563,14 +572,16 @@ public final class PromiseTests {
                 due("about(6)", tricks[1], y.about(6));
                 due("about(11)", refusals, y.about(11));
             }
-            // The player 0 is the declarer.
-            int more = tricks[0] - 4 - level;
-            due("about(7)", more >= 0 ? 10 * level + 2 * more : 0, y.about(7));
-            due("about(8)", more >= 0 ? 0 : -10 * more, y.about(8));
+            int side = declarer % 2;
+            int more = tricks[side] - 4 - level;
+            due("the declarer's score", more >= 0 ? 10 * level + 2 * more : 0, y.about(7 + side));
+            due("the other score", more >= 0 ? 0 : -10 * more, y.about(8 - side));
+            outcomes |= (more >= 0 ? 1 : 2) << 2 * side;
             refused("play(0) at the end", STATE, () -> y.play(0));
             refused("play(32) at the end", INDEX, () -> y.play(32));
         }
         due("both reasons came up", 3, reasons);
+        due("both sides won and lost contracts", 15, outcomes);
     }
 
     static void undo() {

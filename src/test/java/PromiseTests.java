@@ -1,125 +1,13 @@
 import java.util.Arrays;
 
 /** For each promise of the document: ordinary inputs, the edges that are named, and wrong inputs. */
-public final class PromiseTests {
-    static final int NONE = DropSignals.NONE;
-    static final String ARGUMENT = "IllegalArgumentException";
-    static final String INDEX = "IndexOutOfBoundsException";
-    static final String STATE = "IllegalStateException";
-
-    static int wrong = 0;
-    static int checks = 0;
-    static String promise = "";
-
-    interface Call {
-        int answer();
-    }
-
-    static void due(String call, int want, int got) {
-        checks++;
-        if (want != got) {
-            wrong++;
-            System.out.println("promise " + promise + ": " + call + " answered " + got + ", due is " + want);
-        }
-    }
-
-    static void refused(String call, String want, Call c) {
-        checks++;
-        String got;
-        try {
-            got = String.valueOf(c.answer());
-        } catch (RuntimeException e) {
-            got = e.getClass().getSimpleName();
-        }
-        if (!want.equals(got)) {
-            wrong++;
-            System.out.println("promise " + promise + ": " + call + " answered " + got + ", due is " + want);
-        }
-    }
-
-    static DropSignals write(DropSignals x, String text) {
-        x.clearText();
-        for (int i = 0; i < text.length(); i++) {
-            x.append(text.charAt(i));
-        }
-        return x;
-    }
-
-    static DropSignals loaded(String text) {
-        DropSignals x = write(new DropSignals(), text);
-        x.load();
-        return x;
-    }
-
-    /** Everything that can be looked at in the state, as one text. */
-    static String all(DropSignals x) {
-        StringBuilder b = new StringBuilder();
-        for (int i = 0; i < 12; i++) {
-            b.append(x.about(i)).append(' ');
-        }
-        for (int i = 0; i < 96; i++) {
-            b.append(x.cardOf(i / 3, i % 3)).append(' ');
-        }
-        for (int i = 0; i < 96; i++) {
-            b.append(x.suitOf(i / 24, i / 6 % 4, i % 6)).append(' ');
-        }
-        for (int i = 0; i < 4; i++) {
-            b.append(x.trick(i)).append(' ');
-        }
-        return b.toString();
-    }
-
+public final class PromiseTests extends Checks {
     static void same(String call, DropSignals want, DropSignals got) {
-        due(call + " leaves the state", 1, all(want).equals(all(got)) ? 1 : 0);
-    }
-
-    /** The player of each card, dealt as the document says. */
-    static int[] owners(long seed) {
-        int[] row = new int[32];
-        for (int i = 0; i < 32; i++) {
-            row[i] = i;
-        }
-        long x = seed;
-        for (int k = 31; k >= 1; k--) {
-            x = x * 6364136223846793005L + 1442695040888963407L;
-            int j = (int) (x >>> 33) % (k + 1);
-            int t = row[k];
-            row[k] = row[j];
-            row[j] = t;
-        }
-        int[] owner = new int[32];
-        for (int i = 0; i < 32; i++) {
-            owner[row[i]] = i % 4;
-        }
-        return owner;
-    }
-
-    /** Plays the advised cards until so many are laid. */
-    static void advance(DropSignals x, int cards) {
-        for (int i = 0; i < cards && x.about(1) == 2; i++) {
-            x.play(x.advice());
-        }
-    }
-
-    static DropSignals inPlay(long seed, int level, int suit) {
-        return inPlay(seed, level, suit, 0);
-    }
-
-    static DropSignals inPlay(long seed, int level, int suit, int declarer) {
-        DropSignals x = new DropSignals();
-        x.deal(seed);
-        for (int i = 0; i < declarer; i++) {
-            x.pass();
-        }
-        x.bid(level, suit);
-        x.pass();
-        x.pass();
-        x.pass();
-        return x;
+        alike("the state behind " + call, all(want), all(got));
     }
 
     static void newObject() {
-        promise = "1";
+        says("promise 1");
         DropSignals x = new DropSignals();
         int[] want = {0, 0, NONE, 0, NONE, 0, 0, 0, 0, 0, 0, 0};
         for (int i = 0; i < 12; i++) {
@@ -134,7 +22,7 @@ public final class PromiseTests {
     }
 
     static void append() {
-        promise = "2";
+        says("promise 2");
         DropSignals x = new DropSignals();
         refused("append(-1)", ARGUMENT, () -> x.append(-1));
         refused("append(256)", ARGUMENT, () -> x.append(256));
@@ -151,7 +39,7 @@ public final class PromiseTests {
     }
 
     static void clearText() {
-        promise = "3";
+        says("promise 3");
         DropSignals x = new DropSignals();
         due("clearText()", 0, x.clearText());
         write(x, "Vdx");
@@ -167,7 +55,7 @@ public final class PromiseTests {
     }
 
     static void errorPosition() {
-        promise = "4";
+        says("promise 4");
         String[] good = {"V", "Vp", "Va", "Vd00", "Vd99", "Vb10", "Vb44", "Vc00", "Vc09", "Vc19", "Vc29", "Vc30", "Vc31",
             "Vd07b13pppaac12", "Vpppppppp", "Vaaaaad00"};
         for (String text : good) {
@@ -191,7 +79,7 @@ public final class PromiseTests {
     }
 
     static void load() {
-        promise = "5";
+        says("promise 5");
         DropSignals x = new DropSignals();
         refused("load() of no text", STATE, x::load);
         x.deal(5);
@@ -203,22 +91,18 @@ public final class PromiseTests {
         due("deals behind a load() that threw", 1, x.about(0));
         due("undo() behind a load() that threw", 1, x.undo());
         due("restore(0) behind a load() that threw", 1, x.restore(0));
-        while (x.about(9) == 0 || x.about(10) == 0 || x.about(7) == 0 || x.about(8) == 0) {
-            x.deal(x.about(0));
-            x.bid(1, x.about(0) % 5);
-            x.pass();
-            x.pass();
-            x.pass();
-            x.play(firstNotOf(x, x.about(2)));
-            advance(x, 32);
+        Game g = new Game();
+        while (g.now.signals == 0 || g.now.trues == 0 || g.now.score0 == 0 || g.now.score1 == 0) {
+            g.deal(g.now.deals).contract(1, g.now.deals % 5, 0);
+            g.play(g.now.hand(g.now.declarer()).get(0)).playOn(Game.WAYS[2], 32);
         }
-        write(x, "V");
-        due("load() of V", 0, x.load());
-        same("load() of V", new DropSignals(), x);
-        due("clearText() behind load()", 1, x.clearText());
-        refused("undo() behind load()", STATE, x::undo);
-        refused("restore(0) behind load()", STATE, () -> x.restore(0));
-        refused("restore(1) behind load()", STATE, () -> x.restore(1));
+        DropSignals u = write(g.made(), "V");
+        due("load() of V", 0, u.load());
+        same("load() of V", new DropSignals(), u);
+        due("clearText() behind load()", 1, u.clearText());
+        refused("undo() behind load()", STATE, u::undo);
+        refused("restore(0) behind load()", STATE, () -> u.restore(0));
+        refused("restore(1) behind load()", STATE, () -> u.restore(1));
 
         due("load() of pass and bid without a deal", 3, write(new DropSignals(), "Vpb10c00aa").load());
         due("load() of low bids", 3, write(new DropSignals(), "Vd00b20b20b14pb24b23").load());
@@ -227,8 +111,8 @@ public final class PromiseTests {
 
         DropSignals y = loaded("Vd07b13ppp");
         DropSignals z = inPlay(7, 1, 3);
-        same("load()", z, y);
         refused("undo() behind load()", STATE, y::undo);
+        same("load()", z, y);
         int own = y.legal(0);
         int other = 0;
         while (owners(7)[other] == y.about(2)) {
@@ -237,15 +121,16 @@ public final class PromiseTests {
         DropSignals w = write(new DropSignals(), String.format("Vd07b13pppc%02dc%02daa", other, own));
         due("load() with a card that cannot be played", 1, w.load());
         due("refused behind load()", 0, w.about(11));
-        z.play(own);
-        z.play(z.advice());
-        z.play(z.advice());
-        same("load() with cards", z, w);
+        DropSignals v = inPlay(7, 1, 3);
+        v.play(own);
+        v.play(v.advice());
+        v.play(v.advice());
+        same("load() with cards", v, w);
         due("clearText()", 18, w.clearText());
     }
 
     static void about() {
-        promise = "6";
+        says("promise 6");
         DropSignals x = new DropSignals();
         refused("about(-1)", ARGUMENT, () -> x.about(-1));
         refused("about(12)", ARGUMENT, () -> x.about(12));
@@ -289,24 +174,8 @@ public final class PromiseTests {
         due("about(4) without a contract", NONE, x.about(4));
     }
 
-    static int firstOf(DropSignals x, int p) {
-        int c = 0;
-        while (x.cardOf(c, 0) != p) {
-            c++;
-        }
-        return c;
-    }
-
-    static int firstNotOf(DropSignals x, int p) {
-        int c = 0;
-        while (x.cardOf(c, 0) == p) {
-            c++;
-        }
-        return c;
-    }
-
     static void cardOf() {
-        promise = "7";
+        says("promise 7");
         DropSignals x = new DropSignals();
         refused("cardOf(-1, 0)", INDEX, () -> x.cardOf(-1, 0));
         refused("cardOf(32, 0)", INDEX, () -> x.cardOf(32, 0));
@@ -340,7 +209,7 @@ public final class PromiseTests {
     }
 
     static void suitOf() {
-        promise = "8";
+        says("promise 8");
         DropSignals x = new DropSignals();
         refused("suitOf(-1, 0, 0)", INDEX, () -> x.suitOf(-1, 0, 0));
         refused("suitOf(4, 0, 0)", INDEX, () -> x.suitOf(4, 0, 0));
@@ -363,6 +232,7 @@ public final class PromiseTests {
             int[] none = new int[16];
             int[] left = new int[16];
             int[] dealt = new int[16];
+            int[] cards = new int[28];
             for (int c = 0; c < 32; c++) {
                 left[owner[c] * 4 + c / 8]++;
                 dealt[owner[c] * 4 + c / 8]++;
@@ -376,6 +246,7 @@ public final class PromiseTests {
                     c = y.legal(k) == NONE || y.legal(k) % 8 > 3 ? c : y.legal(k);
                 }
                 y.play(c);
+                cards[turn] = c;
                 left[p * 4 + c / 8]--;
                 if (led != NONE && led / 8 != c / 8) {
                     none[p * 4 + led / 8] = 1;
@@ -389,6 +260,10 @@ public final class PromiseTests {
                     }
                 }
             }
+            DropSignals z = inPlay(seed, 1, seed % 5);
+            for (int c : cards) {
+                z.play(c);
+            }
             int trues = 0;
             int sum = 0;
             for (int i = 0; i < 16; i++) {
@@ -396,28 +271,28 @@ public final class PromiseTests {
                 int truth = signal[i] == 0 ? NONE : isTrue ? 1 : 0;
                 int[] want = {left[i], dealt[i], drops[i], signal[i], truth, none[i]};
                 for (int what = 0; what < 6; what++) {
-                    due("suitOf(" + i / 4 + ", " + i % 4 + ", " + what + ")", want[what], y.suitOf(i / 4, i % 4, what));
+                    due("suitOf(" + i / 4 + ", " + i % 4 + ", " + what + ")", want[what], z.suitOf(i / 4, i % 4, what));
                 }
                 sum += signal[i] > 0 ? 1 : 0;
                 trues += truth == 1 ? 1 : 0;
                 lies += truth == 0 ? 1 : 0;
                 nones += none[i];
             }
-            due("about(9)", sum, y.about(9));
-            due("about(10)", trues, y.about(10));
+            due("about(9)", sum, z.about(9));
+            due("about(10)", trues, z.about(10));
             signals += sum;
-            y.deal(1);
-            due("about(9) in the next deal", sum, y.about(9));
-            due("about(10) in the next deal", trues, y.about(10));
+            z.deal(1);
+            due("about(9) in the next deal", sum, z.about(9));
+            due("about(10) in the next deal", trues, z.about(10));
             for (int i = 0; i < 16; i++) {
-                due("drops in the next deal", 0, y.suitOf(i / 4, i % 4, 2) + y.suitOf(i / 4, i % 4, 3) + y.suitOf(i / 4, i % 4, 5));
+                due("drops in the next deal", 0, z.suitOf(i / 4, i % 4, 2) + z.suitOf(i / 4, i % 4, 3) + z.suitOf(i / 4, i % 4, 5));
             }
         }
         due("these deals had signals, lies and shown ends", 1, signals > 5 && lies > 0 && nones > 0 ? 1 : 0);
     }
 
     static void trick() {
-        promise = "9";
+        says("promise 9");
         DropSignals x = inPlay(21, 1, 0);
         refused("trick(-1)", INDEX, () -> x.trick(-1));
         refused("trick(4)", INDEX, () -> x.trick(4));
@@ -442,7 +317,7 @@ public final class PromiseTests {
     }
 
     static void deal() {
-        promise = "10";
+        says("promise 10");
         long[] seeds = {0, 1, -1, 99, Long.MIN_VALUE, Long.MAX_VALUE, 1234567890123L};
         DropSignals x = new DropSignals();
         for (int i = 0; i < seeds.length; i++) {
@@ -460,7 +335,7 @@ public final class PromiseTests {
     }
 
     static void bid() {
-        promise = "11";
+        says("promise 11");
         DropSignals x = new DropSignals();
         refused("bid(1, 0) without a deal", STATE, () -> x.bid(1, 0));
         refused("bid(0, 0) without a deal", ARGUMENT, () -> x.bid(0, 0));
@@ -488,7 +363,7 @@ public final class PromiseTests {
     }
 
     static void pass() {
-        promise = "12";
+        says("promise 12");
         DropSignals x = new DropSignals();
         refused("pass() without a deal", STATE, x::pass);
         x.deal(0);
@@ -516,7 +391,7 @@ public final class PromiseTests {
     }
 
     static void play() {
-        promise = "13";
+        says("promise 13");
         DropSignals x = new DropSignals();
         refused("play(-1)", INDEX, () -> x.play(-1));
         refused("play(32)", INDEX, () -> x.play(32));
@@ -585,7 +460,7 @@ public final class PromiseTests {
     }
 
     static void undo() {
-        promise = "14";
+        says("promise 14");
         DropSignals x = new DropSignals();
         refused("undo()", STATE, x::undo);
         for (int i = 1; i <= 14; i++) {
@@ -603,7 +478,7 @@ public final class PromiseTests {
         refused("undo() with none remembered", STATE, x::undo);
 
         DropSignals y = inPlay(8, 1, 1);
-        String before = all(y);
+        String before = all(inPlay(8, 1, 1));
         int strange = firstNotOf(y, 1);
         due("play() of a strange card", 1, y.play(strange));
         due("about(11)", 1, y.about(11));
@@ -619,20 +494,20 @@ public final class PromiseTests {
         due("bidding again", 1, y.about(1));
         due("passes are taken back too", 2, y.pass());
 
-        DropSignals z = inPlay(9, 1, 1);
-        String[] states = new String[33];
-        for (int i = 0; i < 14; i++) {
-            states[i] = all(z);
-            z.play(z.advice());
-        }
-        for (int i = 13; i >= 0; i--) {
-            due("undo()", i, z.undo());
-            due("the state behind undo()", 1, states[i].equals(all(z)) ? 1 : 0);
+        Game g = Game.inPlay(9, 1, 1, 0).playOn(Game.WAYS[2], 14);
+        Game earlier = g;
+        for (int back = 1; back <= 14; back++) {
+            DropSignals z = g.made();
+            for (int i = 0; i < back; i++) {
+                due("undo()", 13 - i, z.undo());
+            }
+            earlier = earlier.back();
+            same(back + " undo()", earlier.made(), z);
         }
     }
 
     static void legal() {
-        promise = "15";
+        says("promise 15");
         DropSignals x = new DropSignals();
         refused("legal(-1)", INDEX, () -> x.legal(-1));
         refused("legal(8)", INDEX, () -> x.legal(8));
@@ -640,8 +515,9 @@ public final class PromiseTests {
         x.deal(1);
         due("legal(0) in bidding", NONE, x.legal(0));
         for (int seed = 0; seed < 10; seed++) {
-            DropSignals y = inPlay(seed, 2, 2);
-            while (y.about(1) == 2) {
+            Game g = Game.inPlay(seed, 2, 2, 0);
+            while (g.now.phase() == 2) {
+                DropSignals y = g.made();
                 int p = y.about(2);
                 int led = y.trick(0);
                 boolean has = led != NONE && y.suitOf(p, led / 8, 0) > 0;
@@ -655,14 +531,14 @@ public final class PromiseTests {
                 for (; k < 8; k++) {
                     due("legal(" + k + ")", NONE, y.legal(k));
                 }
-                y.play(y.legal(0));
+                g.playOn(Game.WAYS[0], 1);
             }
-            due("legal(0) at the end", NONE, y.legal(0));
+            due("legal(0) at the end", NONE, g.made().legal(0));
         }
     }
 
     static void advice() {
-        promise = "16";
+        says("promise 16");
         DropSignals x = new DropSignals();
         due("advice() without a deal", NONE, x.advice());
         x.deal(1);
@@ -670,8 +546,9 @@ public final class PromiseTests {
         int[] cases = new int[5];
         int beyondLowest = 0;
         for (int seed = 0; seed < 300; seed++) {
-            DropSignals y = inPlay(seed, 1, seed % 5);
-            while (y.about(1) == 2) {
+            Game g = Game.inPlay(seed, 1, seed % 5, 0);
+            while (g.now.phase() == 2) {
+                DropSignals y = g.made();
                 int p = y.about(2);
                 int led = y.trick(0);
                 int s = led == NONE ? NONE : led / 8;
@@ -693,7 +570,7 @@ public final class PromiseTests {
                     for (int c = s * 8; c < s * 8 + 4; c++) {
                         // The one drop is the small card that was played behind another one's lead.
                         int when = y.cardOf(c, 2);
-                        if (when != NONE && y.cardOf(c, 1) == p && when % 4 > 0 && ledAt(y, when) / 8 == s) {
+                        if (when != NONE && y.cardOf(c, 1) == p && when % 4 > 0 && g.now.cards.get(when - when % 4) / 8 == s) {
                             first = c;
                         }
                     }
@@ -716,9 +593,9 @@ public final class PromiseTests {
                 due("advice()", want, y.advice());
                 // Now and then a greater card than the advised one, so that not every first drop is the lowest.
                 int other = y.legal(1) != NONE ? y.legal(1) : y.legal(0);
-                y.play(seed % 3 == 0 ? y.legal(0) : seed % 3 == 1 ? other : y.advice());
+                g.play(seed % 3 == 0 ? y.legal(0) : seed % 3 == 1 ? other : want);
             }
-            due("advice() at the end", NONE, y.advice());
+            due("advice() at the end", NONE, g.made().advice());
         }
         for (int n : cases) {
             due("all cases came up", 1, n > 10 ? 1 : 0);
@@ -726,17 +603,8 @@ public final class PromiseTests {
         due("a second drop was not always the lowest card", 1, beyondLowest > 3 ? 1 : 0);
     }
 
-    static int ledAt(DropSignals y, int when) {
-        for (int c = 0; c < 32; c++) {
-            if (y.cardOf(c, 2) == when - when % 4) {
-                return c;
-            }
-        }
-        return NONE;
-    }
-
     static void mayHave() {
-        promise = "17";
+        says("promise 17");
         DropSignals x = new DropSignals();
         refused("mayHave(-1, 1, 0)", INDEX, () -> x.mayHave(-1, 1, 0, true));
         refused("mayHave(4, 1, 0)", INDEX, () -> x.mayHave(4, 1, 0, true));
@@ -759,9 +627,9 @@ public final class PromiseTests {
         int shown = 0;
         int needed = 0;
         for (int seed = 0; seed < 40; seed++) {
-            DropSignals z = inPlay(seed, 1, 4);
+            Game g = Game.inPlay(seed, 1, 4, 0);
             for (int turn = 0; turn < 31; turn++) {
-                z.play(z.advice());
+                DropSignals z = g.playOn(Game.WAYS[2], 1).made();
                 int viewer = (seed + turn) % 4;
                 int p = (viewer + 1 + turn / 4 % 3) % 4;
                 int s = turn / 5 % 4;
@@ -787,63 +655,45 @@ public final class PromiseTests {
                 read += plain != trusted ? 1 : 0;
                 shown += z.suitOf(p, s, 5);
             }
-            z.play(z.advice());
-            refused("mayHave() at the end", STATE, () -> z.mayHave(0, 1, 0, true));
+            DropSignals over = g.playOn(Game.WAYS[2], 1).made();
+            refused("mayHave() at the end", STATE, () -> over.mayHave(0, 1, 0, true));
         }
         due("all rules came up", 1, read > 5 && shown > 5 && needed > 5 ? 1 : 0);
     }
 
-    static int sizeOf(DropSignals x, int p) {
-        return x.suitOf(p, 0, 0) + x.suitOf(p, 1, 0) + x.suitOf(p, 2, 0) + x.suitOf(p, 3, 0);
-    }
-
-    /** The most tricks, by playing all and taking it back with the calls of the program itself. */
-    static int tried(DropSignals x, int side) {
-        if (x.about(1) == 3) {
-            return x.about(5 + side);
-        }
-        boolean own = x.about(2) % 2 == side;
-        int best = own ? -1 : 99;
-        for (int k = 0; k < 8 && x.legal(k) != NONE; k++) {
-            x.play(x.legal(k));
-            int got = tried(x, side);
-            x.undo();
-            best = own ? Math.max(best, got) : Math.min(best, got);
-        }
-        return best;
-    }
-
     static void most() {
-        promise = "18";
+        says("promise 18");
         DropSignals x = new DropSignals();
         refused("most(-1)", ARGUMENT, () -> x.most(-1));
         refused("most(2)", ARGUMENT, () -> x.most(2));
         refused("most(0) without a deal", STATE, () -> x.most(0));
         for (int seed = 0; seed < 16; seed++) {
-            DropSignals y = inPlay(seed, 1, seed % 5);
-            advance(y, 17);
+            Game g = Game.inPlay(seed, 1, seed % 5, 0).playOn(Game.WAYS[2], 17);
             for (int turn = 17; turn < 20; turn++) {
                 // The players whose turn is still to come have 4 cards.
+                DropSignals y = g.made();
                 refused("most(0) with too many cards", STATE, () -> y.most(0));
                 refused("most(1) with too many cards", STATE, () -> y.most(1));
                 refused("most(2) with too many cards", ARGUMENT, () -> y.most(2));
-                y.play(y.legal(0));
+                g.playOn(Game.WAYS[0], 1);
             }
             for (int turn = 20; turn < 32; turn++) {
+                DropSignals y = g.made();
                 if (turn < 23 ? seed % 8 == turn - 20 : seed % 2 == 0) {
                     int side = y.about(2) % 2;
-                    int want = tried(y, side) - y.about(5 + side);
+                    int want = g.now.bestFor(side) - y.about(5 + side);
                     due("most(0)", want, y.most(0));
                     due("most(1)", want, y.most(1));
                 }
-                y.play(y.legal(seed % 3 == 0 && y.legal(1) != NONE ? 1 : 0));
+                g.play(y.legal(seed % 3 == 0 && y.legal(1) != NONE ? 1 : 0));
             }
-            refused("most(0) at the end", STATE, () -> y.most(0));
+            DropSignals over = g.made();
+            refused("most(0) at the end", STATE, () -> over.most(0));
         }
     }
 
     static void bestCard() {
-        promise = "19";
+        says("promise 19");
         DropSignals x = new DropSignals();
         refused("bestCard() without a deal", STATE, x::bestCard);
         int others = 0;
@@ -854,34 +704,26 @@ public final class PromiseTests {
         searched.most(0);
         due("bestCard() without most(0)", searched.bestCard(), alone.bestCard());
         for (int seed = 100; seed < 130; seed++) {
-            DropSignals y = inPlay(seed, 1, seed % 5);
-            refused("bestCard() with too many cards", STATE, y::bestCard);
-            advance(y, 19);
-            refused("bestCard() with too many cards", STATE, y::bestCard);
-            y.play(y.legal(0));
-            while (y.about(1) == 2) {
-                int side = y.about(2) % 2;
-                int most = y.most(0) + y.about(5 + side);
-                int want = NONE;
-                for (int k = 0; want == NONE && sizeOf(y, y.about(2)) < 3 && y.legal(k) != NONE; k++) {
-                    int c = y.legal(k);
-                    y.play(c);
-                    want = tried(y, side) == most ? c : NONE;
-                    y.undo();
+            Game g = Game.inPlay(seed, 1, seed % 5, 0);
+            refused("bestCard() with too many cards", STATE, () -> g.made().bestCard());
+            g.playOn(Game.WAYS[2], 19);
+            refused("bestCard() with too many cards", STATE, () -> g.made().bestCard());
+            g.playOn(Game.WAYS[0], 1);
+            while (g.now.phase() == 2) {
+                if (g.now.hand(g.now.turn()).size() < 3) {
+                    int want = g.now.bestCard();
+                    due("bestCard()", want, g.made().bestCard());
+                    others += want != g.now.legal().get(0) ? 1 : 0;
                 }
-                if (sizeOf(y, y.about(2)) < 3) {
-                    due("bestCard()", want, y.bestCard());
-                    others += want != y.legal(0) ? 1 : 0;
-                }
-                y.play(y.bestCard());
+                g.play(g.made().bestCard());
             }
-            refused("bestCard() at the end", STATE, y::bestCard);
+            refused("bestCard() at the end", STATE, () -> g.made().bestCard());
         }
         due("the best card was not always the lowest", 1, others > 3 ? 1 : 0);
     }
 
     static void runScript() {
-        promise = "20";
+        says("promise 20");
         DropSignals x = new DropSignals();
         refused("runScript(0, 0)", ARGUMENT, () -> x.runScript(0, 0));
         refused("runScript(5, 0)", ARGUMENT, () -> x.runScript(5, 0));
@@ -974,57 +816,25 @@ public final class PromiseTests {
     }
 
     static void simulate() {
-        promise = "21";
+        says("promise 21");
         DropSignals x = new DropSignals();
         refused("simulate(0, 0)", ARGUMENT, () -> x.simulate(0, 0));
         refused("simulate(0, 201)", ARGUMENT, () -> x.simulate(0, 201));
         refused("simulate(0, -1)", ARGUMENT, () -> x.simulate(0, -1));
         due("simulate(5, 1) without a deal", 1, x.simulate(5, 1));
         for (int seed = -20; seed < 20; seed++) {
-            DropSignals y = seed % 3 == 0 ? new DropSignals() : inPlay(seed, 1, 3);
-            advance(y, seed % 2 == 0 ? 30 : 9);
+            Game g = seed % 3 == 0 ? new Game() : Game.inPlay(seed, 1, 3, 0);
+            g.playOn(Game.WAYS[2], seed % 2 == 0 ? 30 : 9);
             int m = seed == 3 ? 200 : 60 + seed;
-            String before = all(y);
-            int got = y.simulate(seed * 1234567891011L, m);
-            due("simulate() changes nothing", 1, before.equals(all(y)) ? 1 : 0);
-            int deals = y.about(0);
-            int signals = y.about(9);
-            int trues = y.about(10);
-            long r = seed * 1234567891011L;
-            for (int i = 0; i < m; i++) {
-                r = r * 6364136223846793005L + 1442695040888963407L;
-                turn(y, (int) (r >>> 33));
-            }
-            due("simulate(.., " + m + ")", 10000 * (y.about(9) - signals) + 100 * (y.about(10) - trues) + y.about(0) - deals, got);
-        }
-    }
-
-    static void turn(DropSignals y, int r) {
-        int q = r / 16;
-        int phase = y.about(1);
-        if (phase == 0 || phase == 3) {
-            y.deal(q);
-        } else if (phase == 1 && r % 16 >= 6) {
-            y.pass();
-        } else if (phase == 1) {
-            try {
-                y.bid(1 + q % 4, q / 4 % 5);
-            } catch (IllegalStateException e) {
-                // The document: what would throw an exception is left out.
-            }
-        } else if (r % 16 >= 8) {
-            y.play(y.advice());
-        } else {
-            int count = 0;
-            while (count < 8 && y.legal(count) != NONE) {
-                count++;
-            }
-            y.play(y.legal(q % count));
+            long start = seed * 1234567891011L;
+            DropSignals y = g.made();
+            due("simulate(.., " + m + ")", g.now.simulate(start, m), y.simulate(start, m));
+            same("simulate()", g.made(), y);
         }
     }
 
     static void save() {
-        promise = "22";
+        says("promise 22");
         DropSignals x = new DropSignals();
         refused("save(-1)", INDEX, () -> x.save(-1));
         refused("save(2)", INDEX, () -> x.save(2));
@@ -1042,7 +852,7 @@ public final class PromiseTests {
     }
 
     static void restore() {
-        promise = "23";
+        says("promise 23");
         DropSignals x = new DropSignals();
         refused("restore(-1)", INDEX, () -> x.restore(-1));
         refused("restore(2)", INDEX, () -> x.restore(2));
@@ -1050,20 +860,21 @@ public final class PromiseTests {
         DropSignals y = inPlay(50, 2, 1);
         advance(y, 10);
         y.play(firstNotOf(y, y.about(2)));
-        String saved = all(y);
+        DropSignals twin = inPlay(50, 2, 1);
+        advance(twin, 10);
+        twin.play(firstNotOf(twin, twin.about(2)));
         y.save(1);
         advance(y, 30);
         y.deal(9);
         refused("restore(0) of an empty slot", STATE, () -> y.restore(0));
         due("undo() behind a restore() that threw", 13, y.undo());
         due("restore(1)", 1, y.restore(1));
-        due("the state behind restore(1)", 1, saved.equals(all(y)) ? 1 : 0);
         refused("undo() behind restore()", STATE, y::undo);
         y.play(y.advice());
         due("undo()", 0, y.undo());
         y.deal(3);
         due("restore(1) again", 1, y.restore(1));
-        due("the state behind restore(1)", 1, saved.equals(all(y)) ? 1 : 0);
+        same("restore(1)", twin, y);
         advance(y, 30);
         due("play goes on to its end", 3, y.about(1));
         y.undo();

@@ -1,5 +1,7 @@
 import java.util.ArrayList;
+import java.util.Arrays;
 import java.util.List;
+import java.util.function.IntPredicate;
 
 /** "Terms", cards, a deal and signals: a test for each sentence that names a boundary. */
 public final class TermsTests extends Checks {
@@ -679,47 +681,50 @@ public final class TermsTests extends Checks {
 
     /** A player who was dealt all small cards of a suit drops so many of them, the higher or the lower of the first two first. */
     static Game manyDrops(int drops, boolean higherFirst) {
+        int[] ranks = higherFirst ? new int[] {1, 0, 2, 3} : new int[] {0, 1, 2, 3};
+        return dropsInOrder(n -> n >= 4, Arrays.copyOf(ranks, drops));
+    }
+
+    /** A player who was dealt all small cards of a suit, and so many cards of it, drops these ranks one behind the other. */
+    static Game dropsInOrder(IntPredicate dealt, int... ranks) {
         for (int seed = 0; seed < 20000; seed++) {
             int[] owner = owners(seed);
             for (int s = 0; s < 4; s++) {
                 int p = owner[8 * s];
+                int cards = 0;
+                for (int c = 8 * s; c < 8 * s + 8; c++) {
+                    cards += owner[c] == p ? 1 : 0;
+                }
                 boolean all = owner[8 * s + 1] == p && owner[8 * s + 2] == p && owner[8 * s + 3] == p;
-                if (all) {
-                    Game g = droppedAll(seed, p, s, drops, higherFirst);
-                    if (g != null) {
-                        return g;
-                    }
+                Game g = all && dealt.test(cards) ? droppedInOrder(seed, p, s, ranks) : null;
+                if (g != null) {
+                    return g;
                 }
             }
         }
-        throw new IllegalStateException("no deal with " + drops + " drops");
+        throw new IllegalStateException("no deal with " + ranks.length + " drops");
     }
 
-    static Game droppedAll(long seed, int dropper, int s, int drops, boolean higherFirst) {
+    private static Game droppedInOrder(long seed, int p, int s, int[] ranks) {
         for (int declarer = 0; declarer < 4; declarer++) {
             Game g = Game.inPlay(seed, 1, 4, declarer);
+            int drops = 0;
             while (g.now.phase() == 2) {
-                g.play(higherFirst && g.now.turn() == dropper ? highSmallCard(g.now, s) : leadOf(g.now, s));
-                if (dropped(g.now, drops) && g.now.lastPlayer() == dropper && g.now.last() / 8 == s) {
-                    return firstWasHigher(g.now) == higherFirst ? g : null;
+                boolean drop = g.now.turn() == p && !g.now.trick().isEmpty() && g.now.trick().get(0) / 8 == s;
+                g.play(drop ? 8 * s + ranks[drops] : g.now.turn() == p ? Game.highRank(g.now) : leadOf(g.now, s));
+                drops += drop ? 1 : 0;
+                if (drops == ranks.length) {
+                    return g.now.drops(p, s).size() == drops ? g : null;
                 }
             }
         }
         return null;
     }
 
-    /** The lowest card of the suit s, where it can be played; who has none keeps the high cards. */
+    /** A card of the suit s, where it can be led; who has to follow plays low. */
     static int leadOf(History h, int s) {
         List<Integer> suit = h.of(h.legal(), s);
         return suit.isEmpty() ? h.legal().get(0) : h.trick().isEmpty() ? suit.get(suit.size() - 1) : suit.get(0);
-    }
-
-    static int highSmallCard(History h, int s) {
-        int best = NONE;
-        for (int c : h.legal()) {
-            best = c / 8 == s && c % 8 <= 3 ? c : best;
-        }
-        return best != NONE && !h.trick().isEmpty() ? best : Game.highRank(h);
     }
 
     static void dropsOfAnotherDealDoNotCount() {

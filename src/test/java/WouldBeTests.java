@@ -219,36 +219,23 @@ public final class WouldBeTests extends Checks {
         // A higher card that is not small would tell "odd" as well, but it is no drop.
         Game g = Game.one(h -> stands(h, 1, 1) && !dealtEven(h) && small(h, led(h)).get(0) < firstDrop(h) && h.legal().size() > 1);
         advised("an odd number dealt, a lower one and one that is not small", g, g.now.legal().get(0));
+        Game rank4 = Game.one(h -> stands(h, 1, 1) && !dealtEven(h) && small(h, led(h)).get(0) < firstDrop(h) && h.legal().contains(8 * led(h) + 4));
+        advised("an odd number dealt, a lower one and one of rank 4", rank4, rank4.now.legal().get(0));
     }
 
     static void behindTheSecondDrop() {
         says("promise 16: just one drop; in all other cases the lowest rank that can be played");
-        Game even = lateWithTwoDrops();
+        // Were the two drops overlooked, the highest small card would begin a signal.
+        Game even = TermsTests.dropsInOrder(n -> n % 2 == 0, 0, 1, 2).back();
         must("two drops were made, and two small cards are left", stands(even.now, 2, 2) && dealtEven(even.now));
         advised("two drops and two small cards, an even number dealt", even, even.now.legal().get(0));
+        // Were one of the two overlooked, a card that is higher than the first one would follow it.
+        Game odd = TermsTests.dropsInOrder(n -> n % 2 == 1, 1, 2, 3).back();
+        must("two drops were made, and a lower and a higher card are left", stands(odd.now, 2, 2) && !dealtEven(odd.now));
+        advised("two drops, a lower card and a higher one, an odd number dealt", odd, odd.now.legal().get(0));
         for (Game h : Game.some(3, s -> stands(s, 2, 1) && s.legal().size() > 1)) {
             advised("two drops and one small card", h, h.now.legal().get(0));
         }
-    }
-
-    /** A player who was dealt the four small cards of a suit alone has dropped two of them, and has to follow again. */
-    static Game lateWithTwoDrops() {
-        for (int seed = 0; seed < 20000; seed++) {
-            int[] owner = owners(seed);
-            for (int s = 0; s < 4; s++) {
-                int p = owner[8 * s];
-                int dealt = 0;
-                for (int c = 8 * s; c < 8 * s + 8; c++) {
-                    dealt += owner[c] == p ? 1 : 0;
-                }
-                boolean all = dealt == 4 && owner[8 * s + 1] == p && owner[8 * s + 2] == p && owner[8 * s + 3] == p;
-                Game g = all ? TermsTests.droppedAll(seed, p, s, 3, false) : null;
-                if (g != null) {
-                    return g.back();
-                }
-            }
-        }
-        throw new IllegalStateException("no such deal");
     }
 
     static boolean tie(History h) {
@@ -595,7 +582,18 @@ public final class WouldBeTests extends Checks {
         }
     }
 
-    /** The sides' turn and both ways, against all that can be played. */
+    static void onePlayerAloneHasMoreThan3Cards() {
+        says("promise 18 and 19: any player has more than 3 cards: one alone, whoever it is");
+        for (int p = 0; p < 4; p++) {
+            int alone = p;
+            Game g = Game.one(h -> h.cards.size() == 19 && h.turn() == alone);
+            refused("most(0) where " + p + " has 4 cards", STATE, () -> g.made().most(0));
+            refused("most(1) where " + p + " has 4 cards", STATE, () -> g.made().most(1));
+            refused("bestCard() where " + p + " has 4 cards", STATE, () -> g.made().bestCard());
+        }
+    }
+
+    /** Both ways, against all that can be played. */
     static void most(Game g) {
         int side = g.now.turn() % 2;
         int want = g.now.bestFor(side) - g.now.tricks(side);

@@ -717,6 +717,19 @@ public final class WouldBeTests extends Checks {
         bestCards("the second of two is best", false, true);
     }
 
+    static void theBestCardWhileAllHave3Cards() {
+        says("promise 19: the best card with the most cards that are allowed: 3 each, and 3 of all who are still to play");
+        for (int p = 0; p < 4; p++) {
+            int turn = p;
+            for (int cards = 20; cards < 22; cards++) {
+                int n = cards;
+                for (Game g : Game.some(3, h -> h.cards.size() == n && h.turn() == turn)) {
+                    due("bestCard() of " + p + " behind " + n + " cards", g.now.bestCard(), g.made().bestCard());
+                }
+            }
+        }
+    }
+
     static void aCardThatCanBePlayed() {
         says("promise 19: of a card that can be played now");
         for (Game g : Game.some(8, h -> h.cards.size() >= 20 && follows(h) && h.legal().size() < h.hand(h.turn()).size()

@@ -115,7 +115,7 @@ public final class PromiseTests extends Checks {
         same("load()", z, y);
         int own = y.legal(0);
         int other = 0;
-        while (owners(7)[other] == y.about(2)) {
+        while (owners(7)[other] == 1) {
             other++;
         }
         DropSignals w = write(new DropSignals(), String.format("Vd07b13pppc%02dc%02daa", other, own));
@@ -580,7 +580,7 @@ public final class PromiseTests extends Checks {
                         }
                     }
                     cases[want == NONE ? 4 : 2]++;
-                    beyondLowest += want != NONE && want != y.legal(0) ? 1 : 0;
+                    beyondLowest += want != NONE && want != g.now.legal().get(0) ? 1 : 0;
                 } else {
                     cases[3]++;
                 }
@@ -592,8 +592,9 @@ public final class PromiseTests extends Checks {
                 }
                 due("advice()", want, y.advice());
                 // Now and then a greater card than the advised one, so that not every first drop is the lowest.
-                int other = y.legal(1) != NONE ? y.legal(1) : y.legal(0);
-                g.play(seed % 3 == 0 ? y.legal(0) : seed % 3 == 1 ? other : want);
+                int lowest = g.now.legal().get(0);
+                int other = g.now.legal().size() > 1 ? g.now.legal().get(1) : lowest;
+                g.play(seed % 3 == 0 ? lowest : seed % 3 == 1 ? other : g.now.advice());
             }
             due("advice() at the end", NONE, g.made().advice());
         }
@@ -710,12 +711,14 @@ public final class PromiseTests extends Checks {
             refused("bestCard() with too many cards", STATE, () -> g.made().bestCard());
             g.playOn(Game.WAYS[0], 1);
             while (g.now.phase() == 2) {
+                int lowest = g.now.legal().get(0);
+                int want = lowest;
                 if (g.now.hand(g.now.turn()).size() < 3) {
-                    int want = g.now.bestCard();
+                    want = g.now.bestCard();
                     due("bestCard()", want, g.made().bestCard());
-                    others += want != g.now.legal().get(0) ? 1 : 0;
+                    others += want != lowest ? 1 : 0;
                 }
-                g.play(g.made().bestCard());
+                g.play(want);
             }
             refused("bestCard() at the end", STATE, () -> g.made().bestCard());
         }

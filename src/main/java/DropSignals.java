@@ -181,7 +181,7 @@ public final class DropSignals {
         return memory.takeBack(now);
     }
 
-    // ---- what would be
+    // ---- what would be; these and all following methods up to the save slots change nothing
 
     public int legal(int k) throws IndexOutOfBoundsException {
         checkPlace(k, RANKS);

@@ -37,6 +37,8 @@ public final class FaceTests {
         "int restore(int) IndexOutOfBoundsException IllegalStateException",
     };
 
+    static final Path SOURCE = Path.of("src/main/java/DropSignals.java");
+
     static int wrong = 0;
 
     static void must(boolean holds, String what) {
@@ -97,7 +99,7 @@ public final class FaceTests {
     }
 
     static void source() throws Exception {
-        String source = Files.readString(Path.of("src/main/java/DropSignals.java"));
+        String source = Files.readString(SOURCE);
         for (int i = 0; i < source.length(); i++) {
             must(source.charAt(i) < 128, "plain signs at " + i);
         }
@@ -115,9 +117,58 @@ public final class FaceTests {
         }
     }
 
+    /** The document's calls in its order, each group behind what the interface says ahead of it. */
+    static void groups() throws Exception {
+        String[] headings = {"text", "what there is", "actions",
+            "what would be; these and all following methods up to the save slots change nothing", "scripts, simulations", "save slots"};
+        int[] firsts = {0, 4, 8, 13, 18, 20};
+        List<String> want = new ArrayList<>();
+        for (int i = 0, group = 0; i < FACE.length; i++) {
+            if (group < firsts.length && firsts[group] == i) {
+                want.add("---- " + headings[group]);
+                group++;
+            }
+            want.add(FACE[i].substring(4, FACE[i].indexOf('(')));
+        }
+        List<String> got = new ArrayList<>();
+        for (String line : Files.readAllLines(SOURCE)) {
+            if (line.startsWith("    // ---- ") && got.size() < want.size()) {
+                got.add(line.substring(7));
+            } else if (line.startsWith("    public int ")) {
+                got.add(line.substring(15, line.indexOf('(')));
+            }
+        }
+        must(got.equals(want), "the groups of the face are in their order: " + got);
+    }
+
+    /** Rules 9, 11 and 12: what can be counted in the source, which is indented by four blanks. */
+    static void sizes() throws Exception {
+        int classes = 0;
+        int begun = 0;
+        String name = "";
+        int number = 0;
+        for (String line : Files.readAllLines(SOURCE)) {
+            number++;
+            String text = line.trim();
+            int depth = (line.length() - line.stripLeading().length()) / 4;
+            classes += text.contains(" class ") && text.endsWith("{") ? 1 : 0;
+            if (depth > 0 && depth < 3 && text.endsWith("{") && !text.contains(" class ") && begun == 0) {
+                begun = number;
+                name = line;
+            } else if (text.equals("}") && begun > 0 && line.indexOf('}') == name.length() - name.stripLeading().length()) {
+                must(number - begun < 60, "the method is short: " + name.trim());
+                begun = 0;
+            }
+            must(!text.contains("while (true)") && !text.contains("for (;;)"), "the loop has an end: " + text);
+        }
+        must(classes > 1 && classes <= 12, "the file has at most some twelve classes: " + classes);
+    }
+
     public static void main(String[] args) throws Exception {
         face();
         source();
+        groups();
+        sizes();
         System.out.println("face and language: " + wrong + " wrong");
         if (wrong != 0) {
             System.exit(1);

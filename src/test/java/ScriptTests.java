@@ -371,6 +371,29 @@ public final class ScriptTests extends Checks {
         }
     }
 
+    static void divisionsAreRoundedDown() {
+        says("Terms: All divisions are rounded down (q is r / 16, and q / 4)");
+        int tried = 0;
+        for (long seed = 0; seed < 2000; seed++) {
+            int first = (int) (next(seed) >>> 33);
+            int q = first / 16;
+            int value = 5 * (1 + q % 4) + q / 4 % 5;
+            int rounded = 5 * (1 + (q + 1) % 4) + (q + 1) / 4 % 5;
+            int quarter = 5 * (1 + q % 4) + (q / 4 + 1) % 5;
+            boolean fits = first % 16 > 0 && first % 16 < 6 && q % 4 > 0 && (int) (next(next(seed)) >>> 33) % 16 >= 6;
+            for (int other : fits ? new int[] {rounded, quarter} : new int[0]) {
+                // Behind the lower one of both bids, the higher one is made and the lower one is left out.
+                int latest = Math.min(value, other);
+                DropSignals x = dealt(1);
+                x.bid(latest / 5, latest % 5);
+                passes(x, 2);
+                due("deals in simulate(" + seed + ", 35)", value > latest ? 0 : 1, x.simulate(seed, 35) % 100);
+                tried++;
+            }
+        }
+        must("such seeds were found", tried > 100);
+    }
+
     /** A seed whose first turn is a bid, 5 times its level and its suit together, and the second one a pass. */
     static long seedWithBidAndPass(int value) {
         for (long seed = 0; seed < 100000; seed++) {
@@ -407,6 +430,31 @@ public final class ScriptTests extends Checks {
                 long seed = seedWithRestAndChoice(rest, k);
                 int want = rest >= 8 || k == 0 ? signal : 0;
                 due("simulate(" + seed + ", 1), the rest " + rest + ", legal(" + k + ")", want, g.made().simulate(seed, 1));
+            }
+        }
+    }
+
+    /** The seed whose first turn has this r: the step from x to the next one, gone backwards. */
+    static long seedWith(int r) {
+        long inverse = 1;
+        for (int i = 0; i < 6; i++) {
+            inverse *= 2 - 6364136223846793005L * inverse;
+        }
+        return (((long) r << 33) - 1442695040888963407L) * inverse;
+    }
+
+    static void theLowestAndTheHighestR() {
+        says("promise 21: r = (int) (x >>> 33) is computed: from 0 to the highest int; q is r / 16, 0 too");
+        // Of two small cards the lower one would lie; the higher one is advised.
+        Game g = Game.one(h -> WouldBeTests.stands(h, 1, 2) && !WouldBeTests.dealtEven(h) && WouldBeTests.between(h));
+        for (int r = 0; r < 16; r++) {
+            due("simulate() of a turn with r = " + r + " in play", r < 8 ? 10000 : 10100, g.made().simulate(seedWith(r), 1));
+        }
+        for (int r : new int[] {0, 1, 15, 16, Integer.MAX_VALUE - 15, Integer.MAX_VALUE}) {
+            for (int m = 1; m < 60; m += 7) {
+                simulates("with r = " + r + " first, without a deal", new Game(), seedWith(r), m);
+                simulates("with r = " + r + " first, in bidding", new Game().deal(1).bid(1, 0).passes(2), seedWith(r), m);
+                simulates("with r = " + r + " first, in play", g, seedWith(r), m);
             }
         }
     }

@@ -296,6 +296,40 @@ public final class TermsTests extends Checks {
         }
     }
 
+    static void biddingThenPlayThenOver() {
+        says("A DEAL: In a deal there is bidding, then play, then it is over");
+        DropSignals x = dealt(3);
+        StringBuilder phases = new StringBuilder().append(x.about(1));
+        x.bid(1, 2);
+        for (int i = 0; i < 3; i++) {
+            phases.append(x.about(1));
+            x.pass();
+        }
+        for (int i = 0; i < 32; i++) {
+            phases.append(x.about(1));
+            x.play(x.legal(0));
+        }
+        alike("about(1) ahead of each call and at the end", "1111" + "2".repeat(32) + "3", phases.append(x.about(1)).toString());
+    }
+
+    static void eachInTurnPlaysOneCard() {
+        says("A DEAL: Each in turn plays one card");
+        for (int declarer = 0; declarer < 4; declarer++) {
+            Game g = Game.inPlay(6, 1, 4, declarer);
+            for (int i = 0; i < 32; i++) {
+                DropSignals x = g.made();
+                int p = x.about(2);
+                due("turn behind " + i + " cards", i % 4 == 0 ? g.now.turn() : (g.now.lastPlayer() + 1) % 4, p);
+                int c = x.legal(0);
+                due("holder of the card that can be played", p, x.cardOf(c, 0));
+                int cards = sizeOf(x, p);
+                x.play(c);
+                due("cards of the player behind the card", cards - 1, sizeOf(x, p));
+                g.play(c);
+            }
+        }
+    }
+
     static void theLeaderMayPlayAnyCard() {
         says("A DEAL: whoever leads plays any card");
         int[] owner = owners(4);

@@ -314,6 +314,27 @@ public final class TextTests extends Checks {
         due("about(2)", loaded("Vd03b12pppaa").about(2), x.about(2));
     }
 
+    static void readFromLeftToRight() {
+        says("TEXT: The text is read from left to right");
+        due("load() of Vd01b10b11", 0, written("Vd01b10b11").load());
+        due("load() of Vd01b11b10", 1, written("Vd01b11b10").load());
+        due("load() of Vb10d01", 1, written("Vb10d01").load());
+        DropSignals x = dealt(2);
+        x.deal(1);
+        x.pass();
+        x.bid(1, 3);
+        alike("d02d01pb13", all(x), all(loaded("Vd02d01pb13")));
+        alike("d01b10ppp behind d01pppb10", all(inPlay(1, 1, 0)), all(loaded("Vd01b10ppp")));
+        alike("d01pppb10", all(lastBids(1)), all(loaded("Vd01pppb10")));
+    }
+
+    static DropSignals lastBids(long seed) {
+        DropSignals x = dealt(seed);
+        passes(x, 3);
+        x.bid(1, 0);
+        return x;
+    }
+
     static void leftOut(String text, int want) {
         due("load() of " + text, want, written(text).load());
     }

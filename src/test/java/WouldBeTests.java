@@ -1,6 +1,8 @@
 import java.util.ArrayList;
 import java.util.Arrays;
+import java.util.HashSet;
 import java.util.List;
+import java.util.Set;
 import java.util.function.Predicate;
 
 /** The promises 15 to 19, what would be: a test for each sentence that names a boundary. */
@@ -194,6 +196,30 @@ public final class WouldBeTests extends Checks {
         advised("an even number dealt, two lower", even, small(even.now, led(even.now)).get(0));
         Game both = Game.one(h -> stands(h, 1, 2) && dealtEven(h) && between(h));
         advised("an even number dealt, one lower and one higher", both, small(both.now, led(both.now)).get(0));
+    }
+
+    /** The player whose turn it is and the suit that was led, as one number. */
+    static int turnAndLed(History h) {
+        return 4 * h.turn() + led(h);
+    }
+
+    static void theSecondDropInEverySuitByEveryPlayer() {
+        says("promise 16: .. the lowest such card: in whichever suit was led, whoever follows");
+        Set<Integer> suits = new HashSet<>();
+        Set<Integer> players = new HashSet<>();
+        List<Game> games = new ArrayList<>(Game.some(4, h -> stands(h, 1, 2) && !dealtEven(h) && between(h) && suits.add(led(h))));
+        games.addAll(Game.some(4, h -> stands(h, 1, 2) && !dealtEven(h) && between(h) && players.add(h.turn())));
+        for (Game g : games) {
+            advised("an odd number dealt, one lower and one higher", g, small(g.now, led(g.now)).get(1));
+        }
+    }
+
+    static void theFirstDropInEverySuitByEveryPlayer() {
+        says("promise 16: the highest of these, if an even number was dealt: in whichever suit was led, whoever follows");
+        Set<Integer> seen = new HashSet<>();
+        for (Game g : Game.some(16, h -> stands(h, 0, 2) && dealtEven(h) && seen.add(turnAndLed(h)))) {
+            advised("two small cards, an even number dealt", g, small(g.now, led(g.now)).get(1));
+        }
     }
 
     static int firstDrop(History h) {
@@ -503,6 +529,26 @@ public final class WouldBeTests extends Checks {
                 due("numbers that the signal " + signal + " rules out", 0, got & (signal == 2 ? 0xAA : 0x155));
             }
         }
+    }
+
+    static void signalsOfEveryPlayerInEverySuit() {
+        says("promise 17: .. if p gave one in s: whoever p is, and in each suit, it is that number of cards which counts");
+        Set<Integer> seen = new HashSet<>();
+        for (Game g : Game.some(32, h -> h.phase() == 2 && TermsTests.dropped(h, 2) && seen.add(signalOfLast(h)))) {
+            int p = g.now.lastPlayer();
+            int s = g.now.last() / 8;
+            for (int viewer = 0; viewer < 4; viewer++) {
+                if (viewer != p) {
+                    due("mayHave(" + viewer + ", " + p + ", " + s + ", true)", possible(g.now, viewer, p, s, true, NOTHING),
+                        g.made().mayHave(viewer, p, s, true));
+                }
+            }
+        }
+    }
+
+    /** The player, the suit and the signal of the last card, as one number. */
+    static int signalOfLast(History h) {
+        return 100 * h.lastPlayer() + 10 * (h.last() / 8) + h.signal(h.lastPlayer(), h.last() / 8);
     }
 
     static void signalsThatAreNotRead() {

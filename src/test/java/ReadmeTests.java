@@ -116,10 +116,9 @@ public final class ReadmeTests extends Checks {
     }
 
     static void theCommandThatRunsTheTests() throws IOException {
-        says("README: the command that runs the tests, and all of them");
+        says("README: the command that runs the tests, and the files with them");
         String all = String.join("\n", readme());
         must("README names .ci/run", all.contains("\n.ci/run\n"));
-        must(".ci/run is executable", Files.isExecutable(Path.of(".ci/run")));
         String[] files = Path.of("src/test/java").toFile().list();
         Arrays.sort(files);
         for (String file : files) {
